@@ -288,17 +288,18 @@ final class Slow {
         return Ratio.ZERO;
     }
 
-    /** Tries all denominators. */
+    /** Tries all denominators; multiplyExact would tell if longs did not suffice. */
     private static Ratio simplest(Ratio low, Ratio high) {
+        long a = low.top().longValueExact();
+        long b = low.bottom().longValueExact();
+        long c = high.top().longValueExact();
+        long d = high.bottom().longValueExact();
         for (long bottom = 1;; bottom++) {
-            Ratio scale = Ratio.of(bottom);
-            BigInteger first = low.times(scale).floor().add(BigInteger.ONE);
-            BigInteger last = high.times(scale).negate().floor().add(BigInteger.ONE).negate();
-            if (first.compareTo(last) > 0) {
-                continue;
+            long first = Math.floorDiv(Math.multiplyExact(a, bottom), b) + 1;
+            long last = -Math.floorDiv(Math.multiplyExact(-c, bottom), d) - 1;
+            if (first <= last) {
+                return Ratio.of(first > 0 ? first : last < 0 ? last : 0, bottom);
             }
-            BigInteger top = first.signum() > 0 ? first : last.signum() < 0 ? last : BigInteger.ZERO;
-            return new Ratio(top, BigInteger.valueOf(bottom));
         }
     }
 
