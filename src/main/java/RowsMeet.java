@@ -1112,21 +1112,17 @@ public final class RowsMeet {
             }
         }
 
-        void fail() {
-            failAt(place);
-        }
-
         /** The byte at the place, blanks or not; END behind the text. */
         int here() {
-            return place >= 0 && place < length && place < MAX_TEXT ? bytes[place] : END;
+            return place < length && place < MAX_TEXT ? bytes[place] : END;
         }
 
         /** The next byte that is no blank. */
         int peek() {
-            while (place < length && here() == ' ') {
+            while (place < length && place < MAX_TEXT && bytes[place] == ' ') {
                 place++;
             }
-            return here();
+            return place < length && place < MAX_TEXT ? bytes[place] : END;
         }
 
         void step() {
@@ -1137,7 +1133,7 @@ public final class RowsMeet {
             if (peek() == c) {
                 step();
             } else {
-                fail();
+                failAt(place);
             }
         }
 
@@ -1150,7 +1146,7 @@ public final class RowsMeet {
                 step();
             }
             if (place == first || isWithin(here(), '0', '9')) {
-                fail();
+                failAt(place);
             } else if (value > most) {
                 failAt(first);
             }
@@ -1182,7 +1178,7 @@ public final class RowsMeet {
             occurring = 0;
             int table = readSum(0);
             if (scan.peek() != END) {
-                scan.fail();
+                scan.failAt(scan.place);
             }
             return table;
         }
@@ -1217,7 +1213,7 @@ public final class RowsMeet {
 
         private int readInner(int depth) {
             if (depth >= MAX_OPEN) {
-                scan.fail();
+                scan.failAt(scan.place);
                 return 0;
             }
             scan.step();
@@ -1295,7 +1291,7 @@ public final class RowsMeet {
                 int factor = readDigit();
                 int letter = scan.peek() - 'x';
                 if (!isWithin(letter, 0, 2) || isIn(seen, letter)) {
-                    scan.fail();
+                    scan.failAt(scan.place);
                     return;
                 }
                 scan.step();
@@ -1330,7 +1326,7 @@ public final class RowsMeet {
         private int readKind() {
             int c = scan.peek();
             if (c != '<' && c != '=') {
-                scan.fail();
+                scan.failAt(scan.place);
                 return LESS;
             }
             scan.step();

@@ -53,6 +53,14 @@ public final class CoresTest {
         times("2x<1;-3x<-2;", 3, 2);
         times("4x<0;-2x<0;", 1, 2);
         times("0<0;", 1);
+        times("y<0;-2y<0;", 2, 1);
+        times("z<0;-2z<0;", 2, 1);
+        times("x+y<0;-2x-2y<0;", 2, 1);
+        times("x+y-z<0;-2x-2y+2z<0;", 2, 1);
+        times("x<0;y<0;-2x-2y<0;", 2, 2, 1);
+        times("x<0;z<0;-2x-2z<0;", 2, 2, 1);
+        times("y<0;z<0;-2y-2z<0;", 2, 2, 1);
+        times("x+y<0;y+z<0;-x-2y-z<0;", 1, 1, 1);
         times("0<=-9;", 1);
         times("0=9;", -1);
         times("0=-9;", 1);

@@ -92,7 +92,7 @@ public final class SignsTest {
             {")", 0}, {"0)", 1}, {"(0))", 3}, {"0 1", 2}, {"01 2", 3}, {"0!", 1}, {"0(1)", 1}, {"(0)1", 3},
             {"(0)(1)", 3}, {"&0", 0}, {"0&&1", 2}, {"0||1", 2}, {"0&|1", 2}, {"x", 0}, {"0;", 1}, {"-1", 0},
             {"3", 0}, {"!3", 1}, {"0|3", 2}, {"0|3)", 2}, {"12", 0}, {"99", 0}, {"000", 2}, {"0000", 2},
-            {"999", 2}, {"0|123", 4}, {"3 0", 0}, {"03", 0}, {"0\t", 1}, {"0\0", 1}, {"(((((((((0)))))))))", 8},
+            {"999", 2}, {"120", 2}, {"990", 2}, {"0|123", 4}, {"3 0", 0}, {"03", 0}, {"0\t", 1}, {"0\0", 1}, {"(((((((((0)))))))))", 8},
             {"(((((((((", 8}, {"((((((((", 8}, {"((((((((!(0", 9}, {"0&((((((((0)))))))|((0", 22}};
         for (Object[] c : cases) {
             fault(x, (String) c[0], (Integer) c[1]);
@@ -127,7 +127,8 @@ public final class SignsTest {
         CHECK.due("six constraints and a fault", Check.formula(x, "0&1&2&3&4&5&", 0), -22);
         CHECK.due("six constraints and a bad question", Check.formula(x, "0&1&2&3&4&5", 3), BAD);
         CHECK.due("a fault and a bad question", Check.formula(x, "?", -1), BAD);
-        CHECK.due("five, one of them twice", Check.formula(x, "0&1&2&3&4&0&00", 2), 31);
+        formula(x, "0&1&2&3&4&0&00", 1, 11, 31);
+        formula(x, "0|1|2|3|4|!0|!4", 11, 11, 31);
         CHECK.due("told(0)", x.told(0), 2);
         CHECK.due("told(1)", x.told(1), 3);
         CHECK.due("told(4)", x.told(4), 6);

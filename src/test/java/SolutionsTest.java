@@ -26,9 +26,11 @@ public final class SolutionsTest {
     private static void can() {
         CHECK.due("the empty set", new RowsMeet().can(0), 1);
         String[] yes = {"x<0;-x<1;", "x<=0;-x<=0;", "0<1;", "0<=0;", "0=0;", "x=1;x<=1;", "x+y=1;x-y=0;z<0;",
-            "x+y<=1;-x-y<=-1;", "x<1;y<1;z<1;-x-y-z<-2;", "5x+5y+5z<-50;", "2x=1;4x=2;"};
+            "x+y<=1;-x-y<=-1;", "x<1;y<1;z<1;-x-y-z<-2;", "5x+5y+5z<-50;", "2x=1;4x=2;",
+            "0<=1;", "y<=1;-y<=0;z<=1;-z<=0;", "-z<=1;z<=1;-y<=1;y<=1;"};
         String[] not = {"x<0;-x<0;", "x<0;-x<=0;", "x<=0;-x<=-1;", "0<0;", "0<=-1;", "0=1;", "0=-1;", "x=1;x<1;",
-            "x=1;x=2;", "x<=1;y<=1;z<=1;-x-y-z<-3;", "x<1;y<1;z<1;-x-y-z<=-3;", "x+y+z=1;x+y=0;z=0;"};
+            "x=1;x=2;", "x<=1;y<=1;z<=1;-x-y-z<-3;", "x<1;y<1;z<1;-x-y-z<=-3;", "x+y+z=1;x+y=0;z=0;",
+            "-x<0;x<0;", "-y<0;y<0;", "-z<0;z<0;", "-x-z<0;-y<0;x+y+z<0;"};
         for (String text : yes) {
             RowsMeet x = Check.with(text);
             CHECK.due("can " + text, x.can(every(x)), 1);
@@ -44,7 +46,11 @@ public final class SolutionsTest {
         Object[][] cases = {{"x<1;", 3}, {"0=0;", 3}, {"x=1;", 2}, {"x<=1;-x<=-1;", 2}, {"x=1;2x=2;", 2},
             {"x=1;y=1;", 1}, {"x=1;y=1;x+y=2;", 1}, {"x=1;y=1;z=1;", 0}, {"x+y<=0;-x<=0;-y<=0;", 1},
             {"x+y+z<=0;-x<=0;-y<=0;-z<=0;", 0}, {"x+y+z<=0;x-y=0;y-z=0;-x-y-z<=0;", 0},
-            {"x+y+z<1;-x<0;-y<0;-z<0;", 3}, {"x<=1;-x<1;", 3}, {"0<=0;x<5;", 3}};
+            {"x+y+z<1;-x<0;-y<0;-z<0;", 3}, {"x<=1;-x<1;", 3}, {"0<=0;x<5;", 3},
+            {"x+y=0;x-y=0;", 1}, {"x+z=0;x-z=0;", 1}, {"y+z=0;y-z=0;", 1}, {"2x+y=0;x+2y=0;", 1},
+            {"2x+z=0;x+2z=0;", 1}, {"2y+z=0;y+2z=0;", 1}, {"x+y+z=0;2x+2y+2z=0;-x-y-z=0;", 2},
+            {"2x+3y-z=0;x-y+2z=1;3x+2y+z=1;", 1}, {"2x+3y-z=0;x-y+2z=1;3x+2y+2z=1;", 0},
+            {"x+2y+3z=1;4x+5y+5z=1;3x+3y+2z=0;", 1}, {"x=1;y=1;x-y=0;", 1}, {"z=1;y=1;z+y=2;", 1}};
         for (Object[] c : cases) {
             RowsMeet x = Check.with((String) c[0]);
             CHECK.due("dimension " + c[0], x.dimension(every(x)), (Integer) c[1]);
@@ -132,7 +138,8 @@ public final class SolutionsTest {
     private static void same() {
         RowsMeet x = Check.with("x<=1;-x<=-1;x=1;x<1;0<0;2x<2;y<1;");
         int[][] cases = {{0, 0, 1}, {3, 4, 1}, {4, 3, 1}, {7, 4, 1}, {1, 2, 0}, {1, 8, 0}, {8, 1, 0}, {8, 32, 1},
-            {9, 8, 1}, {16, 8 + 2, 1}, {16, 0, 0}, {0, 16, 0}, {4, 1, 0}, {64, 0, 0}, {64 + 8, 64 + 32, 1}};
+            {9, 8, 1}, {16, 8 + 2, 1}, {16, 0, 0}, {0, 16, 0}, {4, 1, 0}, {64, 0, 0}, {64 + 8, 64 + 32, 1},
+            {1, 0, 0}, {0, 1, 0}};
         for (int[] c : cases) {
             CHECK.due("same(" + c[0] + ", " + c[1] + ")", x.same(c[0], c[1]), c[2]);
         }
@@ -151,6 +158,7 @@ public final class SolutionsTest {
 
     private static void points() {
         point("0=0;", 0, 1, 0, 1, 0, 1);
+        point("-x<=-2;y<=3;-y<=2;-z<=0;", 2, 1, -2, 1, 0, 1);
         point("-2x<=-3;4y<=-5;-z<3;", 3, 2, -5, 4, -2, 1);
         point("x<3;-y<0;2z<7;", 2, 1, 1, 1, 3, 1);
         point("2x<-1;-2y<1;-2z<-1;", -1, 1, 0, 1, 1, 1);
