@@ -87,7 +87,6 @@ public final class SignsTest {
     }
 
     private static void faults() {
-        RowsMeet x = Check.with("x<0;y<0;z<0;");
         Object[][] cases = {{"", 0}, {"   ", 3}, {"0&", 2}, {"0& ", 3}, {"(0", 2}, {"!", 1}, {"(", 1}, {"()", 1},
             {")", 0}, {"0)", 1}, {"(0))", 3}, {"0 1", 2}, {"01 2", 3}, {"0!", 1}, {"0(1)", 1}, {"(0)1", 3},
             {"(0)(1)", 3}, {"&0", 0}, {"0&&1", 2}, {"0||1", 2}, {"0&|1", 2}, {"x", 0}, {"0;", 1}, {"-1", 0},
@@ -95,13 +94,14 @@ public final class SignsTest {
             {"999", 2}, {"120", 2}, {"990", 2}, {"0|123", 4}, {"3 0", 0}, {"03", 0}, {"0\t", 1}, {"0\0", 1}, {"(((((((((0)))))))))", 8},
             {"(((((((((", 8}, {"((((((((", 8}, {"((((((((!(0", 9}, {"0&((((((((0)))))))|((0", 22}};
         for (Object[] c : cases) {
+            RowsMeet x = Check.with("x<0;y<0;z<0;");
             fault(x, (String) c[0], (Integer) c[1]);
+            CHECK.due("faults are not counted", x.told(0) + x.told(1) + x.told(2), 0);
         }
         RowsMeet none = new RowsMeet();
         fault(none, "0", 0);
         fault(none, "!(0", 2);
         fault(none, "!(", 2);
-        CHECK.due("faults are not counted", x.told(0) + x.told(1) + x.told(2), 0);
     }
 
     private static void numbersOfTwoDigits() {

@@ -95,13 +95,13 @@ public final class TextsTest {
             {"x<51;", 2}, {"x<51", 2}, {"x<99", 2}, {"x<-51;", 3}, {"x<- 60 ;", 4}, {"x<51?", 2}, {"x<60 1;", 2},
             {"x<512;", 4}, {"x<123", 4}, {"x<000;", 4}, {"x<990;", 4}, {"{<1;", 0}, {"x+{<1;", 2}, {"x<5 1;", 4}, {"x<1;y<51;z", 6}, {"x<1;y<2;z<3", 11},
             {"x<1;\0", 4}, {"x<1;\t", 4}, {"x<1;0&1", 5}, {"(0)", 0}};
-        RowsMeet x = new RowsMeet();
         for (Object[] c : cases) {
+            RowsMeet x = new RowsMeet();
             CHECK.due("reads " + c[0], Check.read(x, (String) c[0]), -10 - (Integer) c[1]);
+            CHECK.due("nothing is added", x.told(4), 0);
+            CHECK.due("nothing can be undone", x.told(5), 0);
+            CHECK.due("faults are not counted", x.told(0) + x.told(1) + x.told(2), 0);
         }
-        CHECK.due("nothing is added", x.told(4), 0);
-        CHECK.due("nothing can be undone", x.told(5), 0);
-        CHECK.due("faults are not counted", x.told(0) + x.told(1) + x.told(2), 0);
     }
 
     private static void readsFull() {
