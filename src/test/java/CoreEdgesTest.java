@@ -14,6 +14,7 @@ public final class CoreEdgesTest {
         zeroOutsideTheCore();
         interpolantOfNoConstraints();
         interpolantKinds();
+        interpolantOfFour();
         interpolantIsOfAllConstraints();
         satisfiableSetsAreRefused();
         CHECK.end();
@@ -199,6 +200,18 @@ public final class CoreEdgesTest {
         between("x<1;y<=1;-x-y=-3;", 5, 0, 1, 0, 1, 1);
         between("x<1;y<=1;-x-y=-3;", 3, -1, -1, 0, 2, -3);
         between("x<1;y<=1;-x-y=-3;", 0, 0, 0, 0, 0, -1);
+    }
+
+    /** A core of four, and what is in it of each party. */
+    private static void interpolantOfFour() {
+        String text = "2x<=1;y<=1;z<1;-x-y-z<=-4;y<9;";
+        between(text, 0, 0, 0, 0, 0, -3);
+        between(text, 8, 2, 2, 2, 0, 5);
+        between(text, 12, 2, 2, 0, 1, 3);
+        between(text, 7, -2, -2, -2, 1, -8);
+        between(text, 11, 0, 0, 2, 0, 2);
+        between(text, 15, 0, 0, 0, 2, 0);
+        between(text, 31, 0, 0, 0, 2, 0);
     }
 
     private static void interpolantIsOfAllConstraints() {

@@ -11,6 +11,7 @@ public final class FaultEdgesTest {
         bytesOfFormulas();
         bytesOfFormulasWithoutConstraints();
         rightSideAboveFifty();
+        anyByteBehindAWrongNumber();
         secondDigitBeforeALetter();
         thirdDigitOfANumber();
         letterThatOccursAlready();
@@ -108,7 +109,7 @@ public final class FaultEdgesTest {
         next("x<1;y+", " 12345xz", "");
     }
 
-    /** As next(), for formulas with twelve constraints. */
+    /** As next(), for formulas with so many constraints. */
     private static void nextOfFormula(int rows, String head, String more, String ends) {
         for (int c = 0; c < 128; c++) {
             String text = head + (char) c;
@@ -171,6 +172,19 @@ public final class FaultEdgesTest {
         }
         orders("x<1;y<51;", 6);
         orders("x<51;y<99;", 2);
+    }
+
+    /** "if the number has no third digit, it is the place of its first digit", whatever stands behind it. */
+    private static void anyByteBehindAWrongNumber() {
+        for (int c = 0; c < 128; c++) {
+            boolean digit = c >= '0' && c <= '9';
+            orders("x<51" + (char) c, digit ? 4 : 2);
+            orders("x<-99" + (char) c, digit ? 5 : 3);
+            formula(3, "0|03" + (char) c, digit ? 4 : 2);
+            formula(12, "(12" + (char) c, digit ? 3 : 1);
+            // Here a digit is the second one of a number that does not exist either.
+            formula(3, "!3" + (char) c, 1);
+        }
     }
 
     /** "a second digit before a letter". */

@@ -23,7 +23,21 @@ public final class LanguageTest {
         }
         check.holds("only ASCII", source.chars().allMatch(c -> c < 128));
         checkLengths(check, code);
+        checkMaking(check, code);
         check.end();
+    }
+
+    /** Objects and arrays are made only for fields, so that no call needs more room than the object has. */
+    private static void checkMaking(Check check, String code) {
+        Matcher made = Pattern.compile("(?m)^.*\\bnew\\b.*$").matcher(code);
+        int found = 0;
+        while (made.find()) {
+            String line = made.group().trim();
+            check.holds("made for a field: " + line, line.matches("(private final [\\w\\[\\]]+ )?\\w+ = new .*;"));
+            found++;
+        }
+        check.holds("something is made", found > 10);
+        check.holds("nothing is copied", !code.contains("clone(") && !code.contains("copyOf"));
     }
 
     /** No method has more than sixty lines or seven parameters, and there are at most twelve classes. */

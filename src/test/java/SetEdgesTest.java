@@ -135,11 +135,20 @@ public final class SetEdgesTest {
         }
     }
 
+    private static final String[] ORDERS = {"xyz", "xzy", "yxz", "yzx", "zxy", "zyx"};
+
+    /** Checks a bound, and that it is the same however the variables are named. */
     private static void bound(String text, int k, int up, long... want) {
-        RowsMeet x = Check.with(text);
-        for (int what = 0; what <= 2; what++) {
-            CHECK.due("bound(" + k + ", " + up + ", " + what + ") of " + text, x.bound(every(x), k, up, what),
-                    want.length == 1 ? want[0] : want[what]);
+        for (String names : ORDERS) {
+            StringBuilder named = new StringBuilder();
+            for (char c : text.toCharArray()) {
+                named.append(c >= 'x' && c <= 'z' ? names.charAt(c - 'x') : c);
+            }
+            RowsMeet x = Check.with(named.toString());
+            for (int what = 0; what <= 2; what++) {
+                CHECK.due("bound(" + names.charAt(k) + ", " + up + ", " + what + ") of " + named,
+                        x.bound(every(x), names.charAt(k) - 'x', up, what), want.length == 1 ? want[0] : want[what]);
+            }
         }
     }
 
